@@ -535,8 +535,8 @@ public final class LazyBuilder {
             if (plan.inputs.length == 0) {
                 return 0;
             }
-            int greatest = Integer.MIN_VALUE;
-            for (int i = 0; i < plan.inputs.length; i++) {
+            int greatest = readyPart(plan.inputs[0]);
+            for (int i = 1; i < plan.inputs.length; i++) {
                 greatest = Math.max(greatest, readyPart(plan.inputs[i]));
             }
             return greatest;

@@ -10,6 +10,7 @@ final class DefineTest {
         tooDeepLines();
         wrongNames();
         latestBadPlace();
+        earlierLinesAreGone();
         valuesAreForgotten();
         undefining();
         rebinding();
@@ -154,6 +155,20 @@ final class DefineTest {
         CHECKS.due("after an empty line", x.count(5), 0);
         CHECKS.due("what was bound stays", x.count(6), 1);
         CHECKS.due("show of +a4", Checks.shown(x, "+a4"), 6);
+    }
+
+    private static void earlierLinesAreGone() {
+        String[] longer = {"+12", "D1(111)", "+D1()2", "!!D9(1)"};
+        for (String text : longer) {
+            for (int length = 0; length < text.length(); length++) {
+                LazyBuilder x = new LazyBuilder();
+                Checks.define(x, 'a', text);
+                String shorter = text.substring(0, length);
+                String call = "define of " + shorter + " after " + text;
+                CHECKS.due(call, Checks.define(x, 'b', shorter), LazyBuilder.SYNTAX);
+                CHECKS.due("bad place by " + call, x.count(5), length);
+            }
+        }
     }
 
     private static void valuesAreForgotten() {

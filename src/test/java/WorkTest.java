@@ -20,6 +20,7 @@ final class WorkTest {
         steps();
         longWork();
         deepestWork();
+        deepestOfEachSign();
         forcing();
         showing();
         wrongNames();
@@ -285,6 +286,29 @@ final class WorkTest {
             Checks.define(x, name, "D0(6" + (char) (name + 1) + ")");
         }
         shows(x, "OD0(7a)", 6 * 7 + 7 + 5);
+    }
+
+    /** Nine texts in one another, each as deep as it may be; N is where the next one stands. */
+    private static void deepest(String pattern, char last, long want, int steps) {
+        LazyBuilder x = new LazyBuilder();
+        for (char name = 'a'; name < last; name++) {
+            Checks.define(x, name, pattern.replace('N', (char) (name + 1)));
+        }
+        Checks.define(x, last, pattern.replace('N', '5'));
+        shows(x, pattern.replace('N', 'a'), want);
+        CHECKS.due("steps of " + pattern, x.count(2), steps);
+    }
+
+    private static void deepestOfEachSign() {
+        deepest("+++++++N0000000", 'h', 5, 135);
+        deepest("???????N00000000000000", 'h', 0, 135);
+        deepest("?1?1?1?1?1?1?1N0000000", 'h', 5, 135);
+        deepest("?00?00?00?00?00?00?00N", 'h', 5, 135);
+        deepest("TTTTTTTN0000000", 'h', 5, 72);
+        deepest("ThThThThThThThN", 'g', 5, 120);
+        deepest("!!!!!!!N", 'h', LazyBuilder.ABORT, 72);
+        deepest("OOOOOOON", 'h', LazyBuilder.TYPE, 72);
+        deepest("D0(D0(D0(D0(D0(N)))))", 'h', LazyBuilder.CRAMPED, 54);
     }
 
     private static void forcing() {
