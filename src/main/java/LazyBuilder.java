@@ -107,15 +107,9 @@ public final class LazyBuilder {
         if (!readLine()) {
             return SYNTAX;
         }
-        if (worker.isClosed()) {
-            return CLOSED;
-        }
-        long value = worker.workOutText(line);
+        int answer = worker.isClosed() ? CLOSED : workLineOut();
         line.clear();
-        if (!isFailure(value)) {
-            shown = value;
-        }
-        return worker.answerOf(value);
+        return answer;
     }
 
     public long value(int name) {
@@ -216,6 +210,14 @@ public final class LazyBuilder {
         badPlace = line.badPlace;
         line.clear();
         return false;
+    }
+
+    private int workLineOut() {
+        long value = worker.workOutText(line);
+        if (!isFailure(value)) {
+            shown = value;
+        }
+        return worker.answerOf(value);
     }
 
     private static boolean isNameNumber(int name) {

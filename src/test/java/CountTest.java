@@ -119,8 +119,10 @@ final class CountTest {
         CHECKS.due("show of +1 closed", Checks.show(x, "+1"), LazyBuilder.SYNTAX);
         counts(x, 0, 0, 2, 30, 0, 2, 0, 0);
         CHECKS.due("show of +D1()2 closed", Checks.show(x, "+D1()2"), LazyBuilder.CLOSED);
-        counts(x, 0, 0, 2, 30, 6, 2, 0, 0);
-        CHECKS.due("the line that CLOSED left is still good", x.define(0), 2);
+        counts(x, 0, 0, 2, 30, 0, 2, 0, 0);
+        CHECKS.due("the next character is the line's first", x.type('7'), 1);
+        CHECKS.due("the line is that character alone", x.define(0), 1);
+        CHECKS.due("nothing was shown", x.value(8), LazyBuilder.NONE);
     }
 
     private static void closedByTries() {

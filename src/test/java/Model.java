@@ -109,9 +109,10 @@ final class Model {
         if (isBad()) {
             return LazyBuilder.SYNTAX;
         }
+        Tree tree = takeTree();
         return answer(() -> {
             steps = 0;
-            shown = work(takeTree());
+            shown = work(tree);
         });
     }
 
