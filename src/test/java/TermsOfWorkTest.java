@@ -130,6 +130,9 @@ final class TermsOfWorkTest {
         for (int i = 0; i < inputs.length; i++) {
             S.due("INPUT " + i, x.input(11, i), inputs[i]);
         }
+        shows(x, "D1(1D2(34)5)", PLAN + 13);
+        S.due("an INPUT before a D with INPUTS", x.input(13, 0), 1);
+        S.due("an INPUT behind it", x.input(13, 2), 5);
     }
 
     private static void noTwoAlike() {
@@ -343,7 +346,9 @@ final class TermsOfWorkTest {
         Checks.define(x, 'a', "a");
         shows(x, "Ta7", LazyBuilder.LOOP);
         shows(withPlans(30), "TD9()7", LazyBuilder.CRAMPED);
-        shows(nearlyLong(), "Ta7", LazyBuilder.LONG);
+        LazyBuilder y = nearlyLong();
+        shows(y, "Ta7", LazyBuilder.LONG);
+        S.due("seven ABORTS were made good, LONG was answered alone", y.count(3), 8);
     }
 
     private static void listInOrder() {
