@@ -107,9 +107,16 @@ public final class LazyBuilder {
         if (!readLine()) {
             return SYNTAX;
         }
-        int answer = worker.isClosed() ? CLOSED : workLineOut();
+        if (worker.isClosed()) {
+            line.clear();
+            return CLOSED;
+        }
+        long value = worker.workOutText(line);
         line.clear();
-        return answer;
+        if (!isFailure(value)) {
+            shown = value;
+        }
+        return worker.answerOf(value);
     }
 
     public long value(int name) {
@@ -134,7 +141,7 @@ public final class LazyBuilder {
         if (worker.isClosed()) {
             return CLOSED;
         }
-        return worker.answerOf(store.resultOf(PLAN + plan));
+        return worker.answerOf(store.partOf(PLAN + plan, MOST_PLANS));
     }
 
     public int root(int plan, boolean on) {
@@ -212,14 +219,6 @@ public final class LazyBuilder {
         return false;
     }
 
-    private int workLineOut() {
-        long value = worker.workOutText(line);
-        if (!isFailure(value)) {
-            shown = value;
-        }
-        return worker.answerOf(value);
-    }
-
     private static boolean isNameNumber(int name) {
         return name >= 0 && name < NAMES;
     }
@@ -257,10 +256,6 @@ public final class LazyBuilder {
 
     private static boolean isPlan(long value) {
         return value > PLAN;
-    }
-
-    private static int numberOf(long plan) {
-        return (int) (plan - PLAN);
     }
 
     /** The characters of a line and, once it was read and found good, how it falls into parts. */
@@ -436,12 +431,13 @@ public final class LazyBuilder {
 
         /** The PLAN with the number; null if there is no such. */
         Plan planAt(int number) {
-            return number >= 1 && number <= size ? plans[number - 1] : null;
+            return planIn(PLAN + number);
         }
 
         /** The PLAN that the VALUE is; null if it is a NUMBER. */
         private Plan planIn(long value) {
-            return isPlan(value) ? planAt(numberOf(value)) : null;
+            long number = value - PLAN;
+            return number >= 1 && number <= size ? plans[(int) number - 1] : null;
         }
 
         /** The PLAN with the builder and the INPUTS, which stand in the row, as a VALUE; or CRAMPED. */
@@ -461,17 +457,12 @@ public final class LazyBuilder {
             return PLAN + size;
         }
 
-        /** The RESULT of the PLAN, which is built if it is not yet; or BROKEN. */
-        long resultOf(long value) {
-            return partOf(value, size + 1);
-        }
-
         /**
-         * What the VALUE is as a PART: a NUMBER itself, a PLAN its RESULT. A PLAN's INPUTS came into
-         * the store before it, so that their numbers fall from level to level: the bound says below
-         * which they are, and nothing goes deeper than there are PLANS.
+         * What the VALUE is as a PART: a NUMBER itself, a PLAN its RESULT, for which it is built if it
+         * is not yet; or BROKEN. A PLAN's INPUTS came into the store before it, so that as many levels
+         * as there can be PLANS are enough.
          */
-        private long partOf(long value, int bound) {
+        long partOf(long value, int levels) {
             Plan plan = planIn(value);
             if (plan == null) {
                 return value;
@@ -479,12 +470,11 @@ public final class LazyBuilder {
             if (plan.isBuilt) {
                 return plan.result;
             }
-            int number = numberOf(value);
-            if (number >= bound) {
+            if (levels <= 0) {
                 return NONE + BROKEN;
             }
             for (int i = 0; i < plan.inputs.length; i++) {
-                long part = partOf(plan.inputs[i], number);
+                long part = partOf(plan.inputs[i], levels - 1);
                 if (isFailure(part)) {
                     return part;
                 }
@@ -494,59 +484,36 @@ public final class LazyBuilder {
 
         /** Builds a PLAN whose INPUTS are built. */
         private long finish(Plan plan) {
-            int kind = kinds[plan.maker];
-            if (kind == BREAKS || kind == HOW_MANY && greatestOf(plan) >= HOW_MANY_BELOW) {
-                return NONE + BROKEN;
+            int sum = 0;
+            int product = 1;
+            int greatest = 0;
+            for (int i = 0; i < plan.inputs.length; i++) {
+                Plan input = planIn(plan.inputs[i]);
+                int part = input == null ? (int) plan.inputs[i] : input.result;
+                sum += part;
+                product *= part;
+                greatest = i == 0 ? part : Math.max(greatest, part);
             }
-            plan.result = outcome(plan, kind);
+            switch (kinds[plan.maker]) {
+                case SUM:
+                    return finishWith(plan, sum);
+                case PRODUCT:
+                    return finishWith(plan, product);
+                case GREATEST:
+                    return finishWith(plan, greatest);
+                case HOW_MANY:
+                    return greatest < HOW_MANY_BELOW
+                            ? finishWith(plan, plan.inputs.length) : NONE + BROKEN;
+                default:
+                    return NONE + BROKEN;
+            }
+        }
+
+        private int finishWith(Plan plan, int result) {
+            plan.result = result;
             plan.isBuilt = true;
             builds++;
-            return plan.result;
-        }
-
-        private int outcome(Plan plan, int kind) {
-            switch (kind) {
-                case PRODUCT:
-                    return productOf(plan);
-                case GREATEST:
-                    return greatestOf(plan);
-                case HOW_MANY:
-                    return plan.inputs.length;
-                default:
-                    return sumOf(plan);
-            }
-        }
-
-        private int sumOf(Plan plan) {
-            int sum = 0;
-            for (int i = 0; i < plan.inputs.length; i++) {
-                sum += readyPart(plan.inputs[i]);
-            }
-            return sum;
-        }
-
-        private int productOf(Plan plan) {
-            int product = 1;
-            for (int i = 0; i < plan.inputs.length; i++) {
-                product *= readyPart(plan.inputs[i]);
-            }
-            return product;
-        }
-
-        private int greatestOf(Plan plan) {
-            if (plan.inputs.length == 0) {
-                return 0;
-            }
-            int greatest = readyPart(plan.inputs[0]);
-            for (int i = 1; i < plan.inputs.length; i++) {
-                greatest = Math.max(greatest, readyPart(plan.inputs[i]));
-            }
-            return greatest;
-        }
-
-        private int readyPart(long value) {
-            Plan plan = planIn(value);
-            return plan == null ? (int) value : plan.result;
+            return result;
         }
 
         /** Unbuilds what no ROOT wants; answers how many PLANS these were. */
@@ -781,7 +748,7 @@ public final class LazyBuilder {
             if (isFailure(inner)) {
                 return inner;
             }
-            return isPlan(inner) ? store.resultOf(inner) : NONE + TYPE;
+            return isPlan(inner) ? store.partOf(inner, MOST_PLANS) : NONE + TYPE;
         }
     }
 }

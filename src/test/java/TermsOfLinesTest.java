@@ -5,9 +5,6 @@ final class TermsOfLinesTest {
     private static final String SEVEN = "!!!!!!!";
 
     public static void main(String[] args) {
-        S.under("What it is");
-        S.says("An object is used for at most 512 calls after it has been made",
-                TermsOfLinesTest::the512thCall);
         S.under("Terms");
         S.says("NAMES are a .. h, each bound to an EXPRESSION or not; none at first.",
                 TermsOfLinesTest::namesFromAToH);
@@ -59,23 +56,6 @@ final class TermsOfLinesTest {
         LazyBuilder y = new LazyBuilder();
         S.due("show of " + text, Checks.show(y, text), LazyBuilder.SYNTAX);
         S.due("the bad place by show of " + text, y.count(5), place);
-    }
-
-    private static void the512thCall() {
-        LazyBuilder x = new LazyBuilder();
-        for (int i = 0; i < 255; i++) {
-            S.due("call " + (2 * i + 1) + ", type", x.type('7'), 1);
-            S.due("call " + (2 * i + 2) + ", define", x.define(i % 8), 1);
-        }
-        S.due("call 511, force", x.force(7), LazyBuilder.DONE);
-        S.due("call 512, value", x.value(7), 7);
-        // What later calls answer is free, but none may throw.
-        for (int i = 0; i < 1000; i++) {
-            x.type('!');
-            x.define(i % 9);
-            x.force(i % 9);
-            x.show();
-        }
     }
 
     private static void namesFromAToH() {

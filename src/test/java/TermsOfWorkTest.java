@@ -413,6 +413,18 @@ final class TermsOfWorkTest {
         S.due("a RESULT is a NUMBER in a list", x.input(3, 0), 9);
         shows(x, "OD0(D0(45)2)", 11);
         S.due("a PLAN stays a PLAN in a list", x.input(4, 0), PLAN + 2);
+        resultOfThirtyInOneAnother();
+    }
+
+    private static void resultOfThirtyInOneAnother() {
+        LazyBuilder x = new LazyBuilder();
+        for (char name = 'a'; name < 'f'; name++) {
+            Checks.define(x, name, "D0(D0(D0(D0(D0(" + (char) (name + 1) + ")))))");
+        }
+        Checks.define(x, 'f', "D0(D0(D0(D0(D0(7)))))");
+        shows(x, "Oa", 7);
+        S.due("plans in one another", x.count(0), 30);
+        S.due("the builds of one O", x.count(1), 30);
     }
 
     private static void failsAgain(LazyBuilder x, int name, int want) {
